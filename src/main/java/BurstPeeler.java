@@ -808,7 +808,8 @@ public final class BurstPeeler {
 
         /** Behind the last SLOT in which the USER may have a COPY. */
         int reachTo(int user) {
-            return Math.min(home[user] + 2, frames) * slots;
+            int last = home[user] + 2;
+            return (last < frames ? last : frames) * slots;
         }
 
         int membersOf(int frame) {
@@ -1161,7 +1162,8 @@ public final class BurstPeeler {
             unknown = 0;
             for (int user = 0; user < field.users; user++) {
                 unknown |= state.way[user] == UNKNOWN ? 1 << user : 0;
-                for (int slot = field.reachFrom(user); slot < field.reachTo(user); slot++) {
+                int end = field.reachTo(user);
+                for (int slot = field.reachFrom(user); slot < end; slot++) {
                     occupants[slot] |= state.hasCopy(user, slot) ? 1 << user : 0;
                 }
             }
@@ -1262,13 +1264,21 @@ public final class BurstPeeler {
 
         /** Why an ACT can't be, as STATUS counts it; NONE: it can be. */
         int refusalOf(State state, int sort, int first, int second) {
+            if (field.users == 0) {
+                return NOT_THERE;
+            }
             switch (sort) {
-                case STEP: return refusalOfLook(state);
-                case ROUND: return refusalOfLook(state);
+                case STEP:
+                case ROUND:
+                    peeler.lookAt(state);
+                    return peeler.clearAnywhere(peeler.unknown) == 0 ? NOTHING_TO_DO : NONE;
                 case CAPTURE: return refusalOfCapture(state, first);
                 case FILE: return refusalOfFile(state, first, second);
-                default: break;
+                default: return refusalOfUserAct(state, sort, first, second);
             }
+        }
+
+        private int refusalOfUserAct(State state, int sort, int first, int second) {
             if (noUser(first)) {
                 return NOT_THERE;
             }
@@ -1285,18 +1295,7 @@ public final class BurstPeeler {
             return user < 0 || user >= field.users;
         }
 
-        private int refusalOfLook(State state) {
-            if (field.users == 0) {
-                return NOT_THERE;
-            }
-            peeler.lookAt(state);
-            return peeler.clearAnywhere(peeler.unknown) == 0 ? NOTHING_TO_DO : NONE;
-        }
-
         private int refusalOfCapture(State state, int c) {
-            if (field.users == 0) {
-                return NOT_THERE;
-            }
             if (c < 0 || c > MOST_CAPTURE) {
                 return OUT_OF_BOUNDS;
             }
@@ -1732,7 +1731,12 @@ public final class BurstPeeler {
             double reach = reach();
             double share = 1.0;
             for (int i = 0; i < rounds; i++) {
-                share = shareByHold(1.0 - multiplied(1.0, 1.0 - reach * share, senders - 1));
+                double next = shareByHold(1.0 - multiplied(1.0, 1.0 - reach * share, senders - 1));
+                if (next == share) {
+                    // From here on each round answers the same.
+                    return share;
+                }
+                share = next;
             }
             return share;
         }
