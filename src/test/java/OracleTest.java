@@ -74,8 +74,9 @@ public final class OracleTest {
     }
 
     private String fieldText() {
-        int slots = 2 + below(below(3) == 0 ? 11 : 5);
-        int frames = 1 + below(4);
+        boolean isLargest = below(12) == 0;
+        int slots = isLargest ? 12 : 2 + below(below(3) == 0 ? 11 : 5);
+        int frames = isLargest ? 4 : 1 + below(4);
         List<String> clauses = new ArrayList<>();
         StringBuilder rules = new StringBuilder("s");
         rules.append(item('n', slots));
