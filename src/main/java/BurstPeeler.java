@@ -515,8 +515,7 @@ public final class BurstPeeler {
             return NONE;
         }
         peeler.lookAt(now);
-        int first = frame * field.slots;
-        return (int) outlook.partsKnown(1 << user, first, first + field.slots, chance, 0L, 1000000000L);
+        return outlook.partsKnown(user, frame, chance);
     }
 
     // ---- DEGREES
@@ -673,22 +672,18 @@ public final class BurstPeeler {
         return value < 0f ? bits | 1 << 31 : bits;
     }
 
+    /** For SHARES, which are none below 0 and none above 1. */
     private static long doubleBits(double value) {
-        if (value == 0.0) {
+        if (value <= 0.0) {
             return 0L;
         }
-        double rest = value < 0.0 ? -value : value;
+        double rest = value;
         long exponent = 1023L;
-        for (int i = 0; i < 2200 && rest >= 2.0; i++) {
-            rest = rest / 2.0;
-            exponent++;
-        }
-        for (int i = 0; i < 2200 && rest < 1.0; i++) {
+        for (int i = 0; i < 1100 && rest < 1.0; i++) {
             rest = rest * 2.0;
             exponent--;
         }
-        long bits = exponent << 52 | (long) ((rest - 1.0) * 4503599627370496.0);
-        return value < 0.0 ? bits | 1L << 63 : bits;
+        return exponent << 52 | (long) ((rest - 1.0) * 4503599627370496.0);
     }
 
     /** The bytes that were fed, and where reading them stands. */
@@ -1436,6 +1431,8 @@ public final class BurstPeeler {
 
     /** What would come, from as the Peeler sees it: nothing here changes a state. */
     private static final class Outlook {
+        private static final long ALL_PARTS = 1000000000L;
+
         private final Field field;
         private final Peeler peeler;
 
@@ -1625,11 +1622,17 @@ public final class BurstPeeler {
             return (peeler.settle(peeler.unknown, 0, field.allSlots(), jammed) & userBit) == 0;
         }
 
+        /** JAM. */
+        int partsKnown(int user, int frame, int chance) {
+            int first = frame * field.slots;
+            return (int) partsFrom(1 << user, first, first + field.slots, chance, 0L, ALL_PARTS);
+        }
+
         /**
          * JAM for SLOTS slot .. end - 1; slot rises to end, 12 levels at most.
          * More JAMMED SLOTS never help: where the best or the worst to come decides, all parts go one way.
          */
-        long partsKnown(int userBit, int slot, int end, int chance, long jammed, long parts) {
+        private long partsFrom(int userBit, int slot, int end, int chance, long jammed, long parts) {
             if (parts == 0L || !isKnownDespite(userBit, jammed)) {
                 return 0L;
             }
@@ -1638,8 +1641,8 @@ public final class BurstPeeler {
                 return parts;
             }
             long lost = parts * chance / 100L;
-            return partsKnown(userBit, slot + 1, end, chance, jammed | 1L << slot, lost)
-                + partsKnown(userBit, slot + 1, end, chance, jammed, parts - lost);
+            return partsFrom(userBit, slot + 1, end, chance, jammed | 1L << slot, lost)
+                + partsFrom(userBit, slot + 1, end, chance, jammed, parts - lost);
         }
 
         int fullestSlot() {

@@ -4,15 +4,21 @@ import java.util.NoSuchElementException;
 final class Check {
     private static int wrong = 0;
     private static int done = 0;
+    private static String about = "";
 
     private Check() {
+    }
+
+    /** What the answers that follow are about: told with each wrong one. */
+    static void about(String words) {
+        about = words + ": ";
     }
 
     static void due(String call, long got, long want) {
         done++;
         if (got != want) {
             wrong++;
-            System.out.println(call + " answered " + got + ", due is " + want);
+            System.out.println(about + call + " answered " + got + ", due is " + want);
         }
     }
 
@@ -62,6 +68,16 @@ final class Check {
     static int script(BurstPeeler peeler, String text) {
         tape(peeler, text);
         return peeler.text(1);
+    }
+
+    /** The FAULT of a text, which text() refuses then and leaves on the TAPE. */
+    static void faultIs(int sort, String text, int want) {
+        BurstPeeler x = new BurstPeeler();
+        tape(x, text);
+        due("fault(" + sort + ") of '" + text + "'", x.fault(sort), want);
+        due("bytes behind fault of '" + text + "'", x.count(2), text.length());
+        due("text(" + sort + ") of '" + text + "' is refused", x.text(sort) == BurstPeeler.NONE, want != BurstPeeler.NONE);
+        due("bytes behind text of '" + text + "'", x.count(2), want == BurstPeeler.NONE ? 0 : text.length());
     }
 
     static void finish() {

@@ -12,12 +12,9 @@ import java.util.TreeSet;
 import java.util.regex.Matcher;
 import java.util.regex.Pattern;
 
-/** What can be seen of LANGUAGE.md from outside: the face, the shape of the classes, words that may not stand there. */
+/** Rule 1 of LANGUAGE.md: the class has the face of the document, and nothing else is open. */
 public final class FaceTest {
-    private static final Path SOURCE = Path.of("src/main/java/BurstPeeler.java");
     private static final Path DOCUMENT = Path.of("../shared/DOC.md");
-    private static final Set<String> STATIC_TYPES = Set.of("int", "long", "boolean", "char", "java.lang.String",
-        "[I", "[J", "[C", "[B");
 
     private FaceTest() {
     }
@@ -66,75 +63,27 @@ public final class FaceTest {
         holds("open fields: " + open, open.equals(List.of("NONE", "HIDDEN")));
     }
 
-    private static void checkClass(Class<?> c, Set<String> faceNames) {
-        int fields = 0;
-        for (Field f : c.getDeclaredFields()) {
-            if (Modifier.isStatic(f.getModifiers())) {
-                holds(f + " is final", Modifier.isFinal(f.getModifiers()));
-                holds(f + " is of a type that may be static", STATIC_TYPES.contains(f.getType().getName()));
-            } else {
-                fields++;
-            }
-        }
-        holds(c + " has " + fields + " fields", fields <= 20);
-        for (Method m : c.getDeclaredMethods()) {
-            holds(m + " has seven parameters at most", m.getParameterCount() <= 7);
-            boolean isFace = c == BurstPeeler.class && Modifier.isPublic(m.getModifiers());
-            holds(m + " has a name of its own", isFace || !faceNames.contains(m.getName()));
-            holds(m + " is no lambda", !m.isSynthetic());
-        }
-    }
-
-    private static void checkClasses() {
+    /** Rule 1: no other method bears a name of the face. */
+    private static void checkNames() {
         Set<String> faceNames = new TreeSet<>();
         for (Method m : BurstPeeler.class.getDeclaredMethods()) {
             if (Modifier.isPublic(m.getModifiers())) {
                 faceNames.add(m.getName());
             }
         }
-        checkClass(BurstPeeler.class, faceNames);
-        Class<?>[] inside = BurstPeeler.class.getDeclaredClasses();
-        holds("twelve classes at most", inside.length + 1 <= 12);
-        for (Class<?> c : inside) {
-            holds(c + " is static", Modifier.isStatic(c.getModifiers()));
-            holds(c + " is not open", !Modifier.isPublic(c.getModifiers()) && !Modifier.isProtected(c.getModifiers()));
-            checkClass(c, faceNames);
-        }
-    }
-
-    private static void checkSource() throws IOException {
-        String source = Files.readString(SOURCE);
-        String code = source.replaceAll("(?s)/\\*.*?\\*/", "").replaceAll("//[^\n]*", "");
-        String[] never = {"->", "::", "\\bfinally\\b", "\\bsynchronized\\b", "\\bassert\\b", "\\bprotected\\b", "\\btry\\b",
-            "\\bcatch\\b", "\\bFloat\\b", "\\bDouble\\b", "Exact\\(", "\\bSystem\\.(?!arraycopy)", "\\bthrow new (?!NoSuch)",
-            "\" \\+|\\+ \"", "\\bhashCode\\b", "\\btoString\\b", "\\bRandom\\b", "\\bpackage\\b", "%\\s*\\w+[fd]\\b"};
-        for (String word : never) {
-            holds("no " + word, !Pattern.compile(word).matcher(code).find());
-        }
-        Matcher imports = Pattern.compile("import ([\\w.]+);").matcher(code);
-        while (imports.find()) {
-            holds(imports.group(1), Set.of("java.util.Arrays", "java.util.NoSuchElementException").contains(imports.group(1)));
-        }
-        int start = 0;
-        int number = 0;
-        for (String line : source.split("\n")) {
-            number++;
-            holds("line " + number + " is not too long", line.length() <= 120);
-            holds("line " + number + " is plain", line.chars().allMatch(c -> c >= 32 && c <= 126));
-            if (line.matches("    (    )?[a-z].*\\) (throws \\w+ )?\\{")) {
-                start = number;
-            }
-            if (line.matches("    (    )?\\}")) {
-                holds("the method that ends in line " + number + " is short", start == 0 || number - start <= 60);
-                start = 0;
+        List<Class<?>> classes = new ArrayList<>(List.of(BurstPeeler.class.getDeclaredClasses()));
+        classes.add(BurstPeeler.class);
+        for (Class<?> c : classes) {
+            for (Method m : c.getDeclaredMethods()) {
+                boolean isFace = c == BurstPeeler.class && Modifier.isPublic(m.getModifiers());
+                holds(m + " has a name of its own", isFace || !faceNames.contains(m.getName()));
             }
         }
     }
 
     public static void main(String[] args) throws IOException {
         checkFace();
-        checkClasses();
-        checkSource();
+        checkNames();
         Check.finish();
     }
 }

@@ -1,7 +1,3 @@
-import java.math.BigInteger;
-import java.util.ArrayList;
-import java.util.List;
-
 /** Each promise of the document by hand: ordinary inputs, the edges that it names, wrong inputs. */
 public final class PromiseTest {
     private static final int NONE = BurstPeeler.NONE;
@@ -20,18 +16,6 @@ public final class PromiseTest {
 
     private static void due(String call, long got, long want) {
         Check.due(call, got, want);
-    }
-
-    /** The draws of a seed, told with whole numbers that have no end. */
-    private static int[] lots(long seed, int... sides) {
-        BigInteger round = BigInteger.ONE.shiftLeft(64);
-        BigInteger x = BigInteger.valueOf(seed).mod(round);
-        int[] lots = new int[sides.length];
-        for (int i = 0; i < sides.length; i++) {
-            x = x.multiply(new BigInteger("6364136223846793005")).add(new BigInteger("1442695040888963407")).mod(round);
-            lots[i] = x.shiftRight(33).mod(BigInteger.valueOf(sides[i])).intValue();
-        }
-        return lots;
     }
 
     private static void promise1NewObject() {
@@ -123,98 +107,89 @@ public final class PromiseTest {
         due("fault of its start", x.fault(0), NONE);
     }
 
-    private static void faultIs(int sort, String text, int want) {
-        BurstPeeler x = new BurstPeeler();
-        Check.tape(x, text);
-        due("fault(" + sort + ") of '" + text + "'", x.fault(sort), want);
-        due("bytes behind fault", x.count(2), text.length());
-        due("text(" + sort + ") of '" + text + "' is refused", x.text(sort) == NONE ? 1 : 0, want == NONE ? 0 : 1);
-        due("bytes behind text", x.count(2), want == NONE ? 0 : text.length());
-    }
-
     private static void promise4FaultOfFields() {
         String[] good = {"u", " u ", "u p 1", "up0099", "u p1g1t0a1b0", "ug1", "ut3;sf4", "ut2b1;sf4",
             "sc99z99;u", "dk6q99;u", "u;u;u;u;u;u;u;u;u;u", "u;d;d;d;d;d;d", "u;s n 2", "ua4095;sn12", "ua255", "s;u;d",
             "ub255;sf2", "sn12f4c0z0;up1g9t3a0b0"};
         for (String text : good) {
-            faultIs(0, text, NONE);
+            Check.faultIs(0, text, NONE);
         }
-        faultIs(0, "", 0);
-        faultIs(0, " ", 1);
-        faultIs(0, "s", 1);
-        faultIs(0, "s ; d ", 6);
-        faultIs(0, ";", 0);
-        faultIs(0, "u;", 2);
-        faultIs(0, "u; ", 3);
-        faultIs(0, "u;;u", 2);
-        faultIs(0, "U", 0);
-        faultIs(0, "x", 0);
-        faultIs(0, "us", 1);
-        faultIs(0, "u u", 2);
-        faultIs(0, "u\u00e9", 1);
-        faultIs(0, "u\t", 1);
-        faultIs(0, "u p", 3);
-        faultIs(0, "u p ;", 4);
-        faultIs(0, "u pg1", 3);
-        faultIs(0, "up0", 2);
-        faultIs(0, "up00", 3);
-        faultIs(0, "up100", 4);
-        faultIs(0, "up0100 ", 5);
-        faultIs(0, "up00991", 6);
-        faultIs(0, "up99999", 6);
-        faultIs(0, "up000000", 6);
-        faultIs(0, "up1p2", 3);
-        faultIs(0, "up1 2", 4);
-        faultIs(0, "ug0", 2);
-        faultIs(0, "ug10", 3);
-        faultIs(0, "ut4", 2);
-        faultIs(0, "ut3", 3);
-        faultIs(0, "ut1", 3);
-        faultIs(0, "ub4096;sf2", 5);
-        faultIs(0, "ut3b1;sf4", 9);
-        faultIs(0, "ut2b256;sf4", 11);
-        faultIs(0, "ua256;sn8", 9);
-        faultIs(0, "ua256", 5);
-        faultIs(0, "ua4096", 5);
-        faultIs(0, "ub1 ", 4);
-        faultIs(0, "sn1;u", 2);
-        faultIs(0, "sn13;u", 3);
-        faultIs(0, "sf0;u", 2);
-        faultIs(0, "sf5;u", 2);
-        faultIs(0, "sc100;u", 4);
-        faultIs(0, "sz100;u", 4);
-        faultIs(0, "s;u;s", 4);
-        faultIs(0, "sk1;u", 1);
-        faultIs(0, "dk0;u", 2);
-        faultIs(0, "dk7;u", 2);
-        faultIs(0, "dq0;u", 2);
-        faultIs(0, "dq100;u", 4);
-        faultIs(0, "u;u;u;u;u;u;u;u;u;u;u", 20);
-        faultIs(0, "u;d;d;d;d;d;d;d", 14);
+        Check.faultIs(0, "", 0);
+        Check.faultIs(0, " ", 1);
+        Check.faultIs(0, "s", 1);
+        Check.faultIs(0, "s ; d ", 6);
+        Check.faultIs(0, ";", 0);
+        Check.faultIs(0, "u;", 2);
+        Check.faultIs(0, "u; ", 3);
+        Check.faultIs(0, "u;;u", 2);
+        Check.faultIs(0, "U", 0);
+        Check.faultIs(0, "x", 0);
+        Check.faultIs(0, "us", 1);
+        Check.faultIs(0, "u u", 2);
+        Check.faultIs(0, "u\u00e9", 1);
+        Check.faultIs(0, "u\t", 1);
+        Check.faultIs(0, "u p", 3);
+        Check.faultIs(0, "u p ;", 4);
+        Check.faultIs(0, "u pg1", 3);
+        Check.faultIs(0, "up0", 2);
+        Check.faultIs(0, "up00", 3);
+        Check.faultIs(0, "up100", 4);
+        Check.faultIs(0, "up0100 ", 5);
+        Check.faultIs(0, "up00991", 6);
+        Check.faultIs(0, "up99999", 6);
+        Check.faultIs(0, "up000000", 6);
+        Check.faultIs(0, "up1p2", 3);
+        Check.faultIs(0, "up1 2", 4);
+        Check.faultIs(0, "ug0", 2);
+        Check.faultIs(0, "ug10", 3);
+        Check.faultIs(0, "ut4", 2);
+        Check.faultIs(0, "ut3", 3);
+        Check.faultIs(0, "ut1", 3);
+        Check.faultIs(0, "ub4096;sf2", 5);
+        Check.faultIs(0, "ut3b1;sf4", 9);
+        Check.faultIs(0, "ut2b256;sf4", 11);
+        Check.faultIs(0, "ua256;sn8", 9);
+        Check.faultIs(0, "ua256", 5);
+        Check.faultIs(0, "ua4096", 5);
+        Check.faultIs(0, "ub1 ", 4);
+        Check.faultIs(0, "sn1;u", 2);
+        Check.faultIs(0, "sn13;u", 3);
+        Check.faultIs(0, "sf0;u", 2);
+        Check.faultIs(0, "sf5;u", 2);
+        Check.faultIs(0, "sc100;u", 4);
+        Check.faultIs(0, "sz100;u", 4);
+        Check.faultIs(0, "s;u;s", 4);
+        Check.faultIs(0, "sk1;u", 1);
+        Check.faultIs(0, "dk0;u", 2);
+        Check.faultIs(0, "dk7;u", 2);
+        Check.faultIs(0, "dq0;u", 2);
+        Check.faultIs(0, "dq100;u", 4);
+        Check.faultIs(0, "u;u;u;u;u;u;u;u;u;u;u", 20);
+        Check.faultIs(0, "u;d;d;d;d;d;d;d", 14);
     }
 
     private static void promise4FaultOfScripts() {
         String[] good = {"p", " p ; r ", "t 5", "x7;f0", "c9999", "c 0000", "p;p;p;p;p;p;p;p;p;p;p;p;p;p;p;p "};
         for (String text : good) {
-            faultIs(1, text, NONE);
+            Check.faultIs(1, text, NONE);
         }
-        faultIs(1, "", 0);
-        faultIs(1, "  ", 2);
-        faultIs(1, "p;", 2);
-        faultIs(1, "pp", 1);
-        faultIs(1, "p1", 1);
-        faultIs(1, "t", 1);
-        faultIs(1, "t ", 2);
-        faultIs(1, "t x", 2);
-        faultIs(1, "t55", 2);
-        faultIs(1, "t5 5", 3);
-        faultIs(1, "c", 1);
-        faultIs(1, "c;p", 1);
-        faultIs(1, "c00001", 5);
-        faultIs(1, "c1 2", 3);
-        faultIs(1, "f0;q", 3);
-        faultIs(1, "p;p;p;p;p;p;p;p;p;p;p;p;p;p;p;p;", 31);
-        faultIs(1, "p;p;p;p;p;p;p;p;p;p;p;p;p;p;p;p ;p", 32);
+        Check.faultIs(1, "", 0);
+        Check.faultIs(1, "  ", 2);
+        Check.faultIs(1, "p;", 2);
+        Check.faultIs(1, "pp", 1);
+        Check.faultIs(1, "p1", 1);
+        Check.faultIs(1, "t", 1);
+        Check.faultIs(1, "t ", 2);
+        Check.faultIs(1, "t x", 2);
+        Check.faultIs(1, "t55", 2);
+        Check.faultIs(1, "t5 5", 3);
+        Check.faultIs(1, "c", 1);
+        Check.faultIs(1, "c;p", 1);
+        Check.faultIs(1, "c00001", 5);
+        Check.faultIs(1, "c1 2", 3);
+        Check.faultIs(1, "f0;q", 3);
+        Check.faultIs(1, "p;p;p;p;p;p;p;p;p;p;p;p;p;p;p;p;", 31);
+        Check.faultIs(1, "p;p;p;p;p;p;p;p;p;p;p;p;p;p;p;p ;p", 32);
         due("fault of no such sort", new BurstPeeler().fault(2), -2);
         due("fault of no such sort", new BurstPeeler().fault(-1), -2);
     }
@@ -509,32 +484,14 @@ public final class PromiseTest {
         due("status(1)", none.status(1), 0);
     }
 
-    private static long drawn(long seed, int from, int room) {
-        List<Integer> free = new ArrayList<>();
-        for (int i = 0; i < room; i++) {
-            free.add(from + i);
-        }
-        int k = Math.min(lots(seed, 4)[0] < 3 ? 2 : 6, room);
-        int[] sides = new int[k + 1];
-        sides[0] = 4;
-        for (int i = 0; i < k; i++) {
-            sides[i + 1] = room - i;
-        }
-        long copies = 0;
-        for (int i = 0; i < k; i++) {
-            copies |= 1L << free.remove(lots(seed, sides)[i + 1]);
-        }
-        return copies;
-    }
-
     private static void promise21Draw() {
         BurstPeeler x = Check.withField("s n4f3;u a15;u t2a1;d k6;d k2q3");
         long[] seeds = {0, 1, 2, 3, -1, Long.MAX_VALUE, Long.MIN_VALUE, 123456789012L, -77};
         for (long seed : seeds) {
-            long two = drawn(seed, 0, 8);
+            long two = Lots.copies(seed, 0, 8, 0, 0, 3, 0, 0, 0, 1);
             due("draw in two frames", x.draw(0, seed), Long.bitCount(two));
             due("copies then", x.copies(0), two);
-            long one = drawn(seed, 8, 4);
+            long one = Lots.copies(seed, 8, 4, 0, 0, 3, 0, 0, 0, 1);
             due("draw in the last frame", x.draw(1, seed), Long.bitCount(one));
             due("copies then", x.copies(1), one);
         }
@@ -603,34 +560,24 @@ public final class PromiseTest {
 
     /** The same years by single calls on another object. */
     private static void yearsByHand(BurstPeeler y, int n, long seed, int frameOfEach) {
-        int[] sides = new int[3 * n];
-        int used = 0;
+        Lots lots = new Lots(seed);
         for (int i = 0; i < n; i++) {
-            sides[used] = 8;
-            int lot = lots(seed, java.util.Arrays.copyOf(sides, used + 1))[used];
-            used++;
+            int lot = lots.next(8);
             if (lot < 2) {
                 y.peel();
             } else if (lot == 2) {
                 y.round();
             } else if (lot == 7) {
-                sides[used] = 30;
-                y.capture(lots(seed, java.util.Arrays.copyOf(sides, used + 1))[used]);
-                used++;
+                y.capture(lots.next(30));
             } else {
-                sides[used] = y.count(0);
-                int user = lots(seed, java.util.Arrays.copyOf(sides, used + 1))[used];
-                used++;
+                int user = lots.next(y.count(0));
                 if (lot == 3) {
                     y.tell(user);
                 } else if (lot == 4) {
                     y.forget(user);
                 } else {
                     int room = y.rule(0) * (frameOfEach + 1 < y.rule(1) ? 2 : 1);
-                    sides[used] = room;
-                    y.turn(user, frameOfEach * y.rule(0)
-                        + lots(seed, java.util.Arrays.copyOf(sides, used + 1))[used]);
-                    used++;
+                    y.turn(user, frameOfEach * y.rule(0) + lots.next(room));
                 }
             }
         }
@@ -1011,7 +958,7 @@ public final class PromiseTest {
         due("sample without degrees", Check.withField("u").sample(1), NONE);
         BurstPeeler three = Check.withField("u;d k5q2;d k1q1;d k3q4");
         for (long seed = -5; seed < 30; seed++) {
-            int lot = lots(seed, 7)[0];
+            int lot = new Lots(seed).next(7);
             due("sample(" + seed + ")", three.sample(seed), lot < 1 ? 1 : lot < 5 ? 3 : 5);
         }
         due("sample is no act", three.count(4), 0);
