@@ -548,10 +548,11 @@ public final class BurstPeeler {
     }
 
     public int load(int c) {
-        if (noField() || c < 0 || c > 999) {
+        int slots = field.allSlots();
+        if (noField() || slots == 0 || c < 0 || c > 999) {
             return NONE;
         }
-        return c * field.users / field.allSlots();
+        return c * field.users / slots;
     }
 
     // ---- SCRIPTS

@@ -10,6 +10,7 @@ import com.sun.source.tree.DoWhileLoopTree;
 import com.sun.source.tree.ExpressionTree;
 import com.sun.source.tree.ForLoopTree;
 import com.sun.source.tree.LambdaExpressionTree;
+import com.sun.source.tree.LiteralTree;
 import com.sun.source.tree.MemberReferenceTree;
 import com.sun.source.tree.MethodInvocationTree;
 import com.sun.source.tree.MethodTree;
@@ -37,6 +38,7 @@ import java.util.Map;
 import java.util.Set;
 import java.util.TreeMap;
 import java.util.TreeSet;
+import java.util.regex.Pattern;
 import javax.lang.model.element.Element;
 import javax.lang.model.element.ElementKind;
 import javax.lang.model.element.ExecutableElement;
@@ -169,9 +171,25 @@ public final class LanguageTest extends TreePathScanner<Void, Void> {
         if (isFloating(left) || isFloating(right)) {
             holds(3, tree, "+ - * / and comparisons alone on doubles and floats", ON_FLOATS.contains(tree.getKind()));
         }
+        boolean isDivided = tree.getKind() == Tree.Kind.DIVIDE || tree.getKind() == Tree.Kind.REMAINDER;
+        if (isDivided && !isFloating(left) && !isFloating(right)) {
+            holds(7, tree, "the divisor is looked at before it divides", isLookedAt(tree.getRightOperand()));
+        }
         boolean isText = left.toString().equals("java.lang.String") || right.toString().equals("java.lang.String");
         holds(10, tree, "no joining of texts by +, no == of texts", !isText);
         return super.visitBinary(tree, none);
+    }
+
+    /** A divisor that is written as a number or a constant, or that the method around compares with 0. */
+    private boolean isLookedAt(ExpressionTree divisor) {
+        boolean isConstant = divisor instanceof LiteralTree
+            || elementOf(divisor) instanceof VariableElement v && v.getConstantValue() != null;
+        for (TreePath path = getCurrentPath(); path != null && !isConstant; path = path.getParentPath()) {
+            if (path.getLeaf() instanceof MethodTree around) {
+                return around.toString().matches("(?s).*\\b" + Pattern.quote(divisor.toString()) + " (==|!=|<=|>) 0\\b.*");
+            }
+        }
+        return isConstant;
     }
 
     @Override
