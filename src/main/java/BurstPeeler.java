@@ -1235,6 +1235,11 @@ public final class BurstPeeler {
         int stuckOf(int set) {
             return settle(set, 0, field.allSlots(), 0L);
         }
+
+        /** Whether one USER (its bit) is known, SOLVED, though no COPY in a JAMMED SLOT is ever CLEAR. */
+        boolean isKnownDespite(int userBit, long jammed) {
+            return (settle(unknown, 0, field.allSlots(), jammed) & userBit) == 0;
+        }
     }
 
     /** What is done by hand, on any state. */
@@ -1619,31 +1624,27 @@ public final class BurstPeeler {
             return best;
         }
 
-        private boolean isKnownDespite(int userBit, long jammed) {
-            return (peeler.settle(peeler.unknown, 0, field.allSlots(), jammed) & userBit) == 0;
-        }
-
         /** JAM. */
         int partsKnown(int user, int frame, int chance) {
-            int first = frame * field.slots;
-            return (int) partsFrom(1 << user, first, first + field.slots, chance, 0L, ALL_PARTS);
+            long open = ((1L << field.slots) - 1L) << frame * field.slots;
+            return (int) partsFrom(peeler, 1 << user, chance, open, 0L, ALL_PARTS);
         }
 
         /**
-         * JAM for SLOTS slot .. end - 1; slot rises to end, 12 levels at most.
+         * JAM for the SLOTS that are open still (bits), the lowest first: each level takes one of them, 12 at most.
          * More JAMMED SLOTS never help: where the best or the worst to come decides, all parts go one way.
          */
-        private long partsFrom(int userBit, int slot, int end, int chance, long jammed, long parts) {
-            if (parts == 0L || !isKnownDespite(userBit, jammed)) {
+        private static long partsFrom(Peeler peeler, int userBit, int chance, long open, long jammed, long parts) {
+            if (parts == 0L || !peeler.isKnownDespite(userBit, jammed)) {
                 return 0L;
             }
-            long rest = (1L << end) - (1L << slot);
-            if (slot >= end || isKnownDespite(userBit, jammed | rest)) {
+            if (open == 0L || peeler.isKnownDespite(userBit, jammed | open)) {
                 return parts;
             }
+            long slot = open & -open;
             long lost = parts * chance / 100L;
-            return partsFrom(userBit, slot + 1, end, chance, jammed | 1L << slot, lost)
-                + partsFrom(userBit, slot + 1, end, chance, jammed, parts - lost);
+            return partsFrom(peeler, userBit, chance, open & ~slot, jammed | slot, lost)
+                + partsFrom(peeler, userBit, chance, open & ~slot, jammed, parts - lost);
         }
 
         int fullestSlot() {

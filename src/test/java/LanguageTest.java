@@ -66,7 +66,7 @@ public final class LanguageTest extends TreePathScanner<Void, Void> {
     private final CompilationUnitTree unit;
     private final Set<String> ownClasses = new TreeSet<>();
     private final Map<String, Set<String>> calls = new TreeMap<>();
-    private final Set<String> privateMethods = new TreeSet<>();
+    private final Set<String> privateStaticMethods = new TreeSet<>();
     private int classes = 0;
 
     private LanguageTest(Trees trees, CompilationUnitTree unit) {
@@ -373,8 +373,8 @@ public final class LanguageTest extends TreePathScanner<Void, Void> {
     public Void visitMethod(MethodTree tree, Void none) {
         ExecutableElement method = (ExecutableElement) trees.getElement(getCurrentPath());
         calls.computeIfAbsent(nameOf(method), n -> new TreeSet<>());
-        if (method.getModifiers().contains(Modifier.PRIVATE)) {
-            privateMethods.add(nameOf(method));
+        if (method.getModifiers().containsAll(List.of(Modifier.PRIVATE, Modifier.STATIC))) {
+            privateStaticMethods.add(nameOf(method));
         }
         holds(11, tree, "seven parameters at most", tree.getParameters().size() <= 7);
         long start = trees.getSourcePositions().getStartPosition(unit, tree);
@@ -412,8 +412,8 @@ public final class LanguageTest extends TreePathScanner<Void, Void> {
             int deep = depth(method, new ArrayList<>(), known);
             Check.due("rule 11: calls below " + method + " go " + deep + " deep", deep <= DEEPEST, true);
             boolean callsItself = calls.get(method).contains(method);
-            Check.due("rule 8: " + method + " calls itself and is private",
-                !callsItself || privateMethods.contains(method), true);
+            Check.due("rule 8: " + method + " calls itself and is private and static",
+                !callsItself || privateStaticMethods.contains(method), true);
         }
         Check.due("rule 11: some twelve classes", classes <= 12, true);
     }
