@@ -62,16 +62,15 @@ final class Document {
     }
 
     static void everyWordIsNamed() {
-        Check.about("the document");
-        Check.due("terms", PARTS.containsKey("Terms"), true);
-        checkPart("Terms");
+        everyWordOf("Terms");
         for (int i = 1; i <= PROMISES; i++) {
-            Check.due("promise " + i, PARTS.containsKey("Promise " + i), true);
-            checkPart("Promise " + i);
+            everyWordOf("Promise " + i);
         }
     }
 
-    private static void checkPart(String part) {
+    static void everyWordOf(String part) {
+        Check.about("the document");
+        Check.due("there is a part " + part, PARTS.containsKey(part), true);
         String text = PARTS.getOrDefault(part, "");
         boolean[] named = NAMED.getOrDefault(part, new boolean[text.length()]);
         StringBuilder left = new StringBuilder();
