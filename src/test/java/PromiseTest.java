@@ -927,6 +927,9 @@ public final class PromiseTest {
         due("known now", x.jam(2, 0, 100), 1000000000);
         BurstPeeler frames = Check.withField("s n2f2;u a1b1");
         due("one frame alone is jammed", frames.jam(0, 0, 100), 1000000000);
+        BurstPeeler last = Check.withField("s n2f2;u a1;u t1a2");
+        due("not in the second frame", last.jam(0, 1, 25), 1000000000);
+        due("in the second frame", last.jam(1, 1, 25), 750000000);
     }
 
     private static void promise44To46Degrees() {

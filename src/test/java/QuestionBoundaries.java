@@ -730,6 +730,12 @@ final class QuestionBoundaries {
         BurstPeeler second = field("s n3f2;u b5;u t1a1;u a1");
         due("slots of the second frame", second.jam(1, 1, 29), parts(3, 29, j -> (j & 5) == 0));
         due("another frame is free", second.jam(0, 0, 100), ALL_PARTS);
+        BurstPeeler edges = field("s n3f4;u t1a4;u t2a1;u t2a4;u t3a1");
+        int[] alone = {100, 0, 0, 100};
+        for (int user = 0; user < 4; user++) {
+            due("the slot ahead of the frame, its first, its last, the one behind", edges.jam(user, 2, 100),
+                alone[user] * (ALL_PARTS / 100));
+        }
         Document.promise(43, "JAM.");
         Unchanged.asked(BUSY, "known now, all jammed", x -> x.jam(0, 0, 100), ALL_PARTS);
         Unchanged.asked(BUSY, "never", x -> x.jam(2, 0, 0), 0);
