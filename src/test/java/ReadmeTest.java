@@ -128,31 +128,46 @@ public final class ReadmeTest {
         Check.due("README.md: each call once", calls.size(), faceNames().size());
     }
 
-    /** The letters of the TEXTS that the table tells are those that the class takes, with the bounds told. */
+    /** The letters of a FIELD that the table tells are those that the class takes, with the bounds told. */
     private static void checkTexts(String use) {
-        Matcher m = Pattern.compile("`([a-z])`[^`;(]*\\((\\d+) \\.\\. (\\d+); (\\d+)\\)").matcher(use);
-        int found = 0;
+        Matcher m = Pattern.compile("`([a-z])` [^`;(]*\\((\\d+) \\.\\. (\\d+); (\\d+)\\)").matcher(use);
+        StringBuilder letters = new StringBuilder();
         while (m.find()) {
             String letter = m.group(1);
+            letters.append(letter);
             String clause = "nfcz".contains(letter) ? "s" : "pgtab".contains(letter) ? "u" : "d";
-            String rest = clause.equals("s") ? ";u" : clause.equals("u") ? ";sn12f4" : ";u";
+            String rest = clause.equals("u") ? ";sn12f4" : ";u";
             long low = Long.parseLong(m.group(2));
             long high = Long.parseLong(m.group(3));
             holds(letter + " from " + low, isField(clause + letter + low + rest));
             holds(letter + " to " + high, isField(clause + letter + high + rest));
             holds(letter + " not above", !isField(clause + letter + (high + 1) + rest));
             holds(letter + " not below", low == 0 || !isField(clause + letter + (low - 1) + rest));
-            found++;
+            Check.due("README.md: " + letter + " without", valueOf(letter, "u;s;d"), Long.parseLong(m.group(4)));
         }
-        holds("bounds are told: " + found, found >= 8);
-        BurstPeeler x = Check.withField("u;s;d");
-        int[] usual = {8, 1, 0, 0};
-        for (int what = 0; what < 4; what++) {
-            Check.due("README.md: rule(" + what + ") without", x.rule(what), usual[what]);
+        holds("all letters are told: " + letters, letters.toString().equals("nfczpgtabkq"));
+        for (String step : allOf("`([prtfxc]1?0?)`", use.substring(Math.max(use.indexOf("| SCRIPT |"), 0)))) {
+            BurstPeeler x = new BurstPeeler();
+            Check.tape(x, step);
+            Check.due("README.md: " + step + " is a SCRIPT", x.fault(1), BurstPeeler.NONE);
         }
-        Check.due("README.md: POWER, FAR, FRAME without", x.user(0, 0) * 100 + x.user(0, 1) * 10 + x.user(0, 2), 1010);
-        Check.due("README.md: COPIES without", x.copies(0), 0);
-        Check.due("README.md: k, q without", x.weight(1), 1);
+    }
+
+    /** What a FIELD whose DEGREES are one alone has for a letter. */
+    private static long valueOf(String letter, String text) {
+        BurstPeeler x = Check.withField(text);
+        switch (letter) {
+            case "n": return x.rule(0);
+            case "f": return x.rule(1);
+            case "c": return x.rule(2);
+            case "z": return x.rule(3);
+            case "p": return x.user(0, 0);
+            case "g": return x.user(0, 1);
+            case "t": return x.user(0, 2);
+            case "k": return x.sample(1);
+            case "q": return x.weight(x.sample(1));
+            default: return x.copies(0);
+        }
     }
 
     private static boolean isField(String text) {
